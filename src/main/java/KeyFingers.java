@@ -287,7 +287,9 @@ public final class KeyFingers {
     }
 
     public int sum() {
-        return together();
+        int ofRight = rows.leastCost(right, NONE, NONE);
+        int ofLeft = rows.leastCost(left, NONE, NONE);
+        return ofRight == NONE || ofLeft == NONE ? NONE : ofRight + ofLeft;
     }
 
     public int swap(int moment) {
@@ -295,14 +297,14 @@ public final class KeyFingers {
             return UNKNOWN;
         }
         exchange(moment);
-        return together();
+        return sum();
     }
 
     public int help(int what) {
         if (what < 0 || what > 1) {
             return OUTSIDE;
         }
-        int now = together();
+        int now = sum();
         int least = now == NONE ? FAR : now;
         int found = NONE;
         for (int m = 0; m < MOMENTS; m++) {
@@ -310,7 +312,7 @@ public final class KeyFingers {
             int markOfRight = right.markAt(m);
             int markOfLeft = left.markAt(m);
             exchange(m);
-            int behind = together();
+            int behind = sum();
             exchange(m);
             right.setMark(m, markOfRight);
             left.setMark(m, markOfLeft);
@@ -420,12 +422,6 @@ public final class KeyFingers {
             }
         }
         return count;
-    }
-
-    private int together() {
-        int ofRight = rows.leastCost(right, NONE, NONE);
-        int ofLeft = rows.leastCost(left, NONE, NONE);
-        return ofRight == NONE || ofLeft == NONE ? NONE : ofRight + ofLeft;
     }
 
     private void exchange(int moment) {

@@ -411,10 +411,32 @@ public final class Promises {
         dueFingers(x, 0, 1, 2, 1);
         x.mark(0, 2, 5);
         dueFingers(x, 0, 5, 1, 5);
+        x = playing(0, 24, 24, 24, 24, 24, 24);
+        x.tie(0, 0, 3, 2);
+        dueFingers(x, 0, 1, 2, 3, 1, 2, 1);
+        x = playing(1, 24, 24, 24, 24, 24, 24, 24);
+        x.tie(1, 1, 4, 2);
+        dueFingers(x, 1, 1, 2, 1, 3, 2, 1, 2);
+        x = playing(0, 24, 24, 24, 59);
+        x.tie(0, 0, 2, 2);
+        dueFingers(x, 0, 1, 1, 1, 1);
+        x = playing(0, 24, 24, 24, 24, 24, 59);
+        x.tie(0, 0, 3, 3);
+        dueFingers(x, 0, 1, 2, 2, 1, 2, 2);
+        due("its cost", x.best(0), 9);
+        x = playing(0, 24, 24, 59);
+        x.tie(0, 0, 1, 1);
+        dueFingers(x, 0, 1, 1, 1);
+        due("its cost", x.best(0), 9);
+        x = playing(0, 24, 24, 24, 59, 59, 59);
+        x.tie(0, 1, 2, 1);
+        x.mark(0, 5, 5);
+        x.price(5, 20);
+        dueFingers(x, 0, 1, 2, 2, 2, 1, 5);
         for (int hand : WRONG_HANDS) {
             due("finger hand " + hand, x.finger(hand, 0), UNKNOWN);
         }
-        for (int k : new int[] {-1, 3, NONE, LOW, HIGH}) {
+        for (int k : new int[] {-1, 6, 30, NONE, LOW, HIGH}) {
             due("finger k " + k, x.finger(0, k), UNKNOWN);
         }
         due("finger of a hand without notes", x.finger(1, 0), UNKNOWN);
@@ -514,6 +536,14 @@ public final class Promises {
         due("AGAIN is dear", x.tied(1), 20);
         x.tie(1, 0, 2, 1);
         due("one that does not hold", x.tied(1), 0);
+        KeyFingers y = playing(0, 24, 24, 59);
+        y.tie(0, 0, 1, 1);
+        due("with a jump in both rows", y.tied(0), 1);
+        y.mark(0, 0, 1);
+        y.mark(0, 1, 2);
+        due("a row without it alone", y.tied(0), NONE);
+        y.untie(0);
+        due("that row has a cost", y.best(0), 8);
         x.tie(1, 0, 1, 1);
         x.mark(1, 0, 1);
         x.mark(1, 1, 2);
@@ -671,6 +701,22 @@ public final class Promises {
         x.put(0, 2, NONE);
         due("notes numbered anew", x.echo(9, 0, 0), 2);
         due("its likeness", x.echo(9, 0, 1), 1);
+        x = playing(0, 24, 26, 28, 24, 26, 28);
+        x.phrase(1, 0, 0, 2);
+        due("likeness of two notes, not of three", x.echo(1, 0, 1), 2);
+        x = playing(0, 27, 25, 24, 25, 24);
+        x.phrase(2, 0, 1, 2);
+        due("likeness behind note 0", x.echo(2, 0, 1), 2);
+        x = playing(0, 25, 24, 25, 24, 25);
+        x.phrase(1, 0, 0, 2);
+        x.phrase(2, 0, 1, 2);
+        x.phrase(3, 0, 0, 3);
+        x.put(0, 5, 24);
+        x.forget(1);
+        due("a phrase of 2 in another place", x.echo(2, 0, 0), 3);
+        due("a phrase of 3 in another place", x.echo(3, 0, 0), NONE);
+        x.forget(2);
+        due("a phrase of 3 in the first place", x.echo(3, 0, 0), NONE);
         KeyFingers all = new KeyFingers();
         for (int m = 0; m < 30; m++) {
             all.put(1, m, 29 - m);
@@ -843,6 +889,10 @@ public final class Promises {
         x.help(0);
         due("marks of a clash are as they were", x.note(0, 3, 2), 2);
         due("marks of a clash are as they were", x.note(1, 0, 2), 3);
+        x.put(1, 0, 31);
+        x.mark(1, 0, 4);
+        x.help(1);
+        due("the left mark is as it was", x.note(1, 0, 2), 4);
         for (int what : new int[] {-1, 2, NONE, LOW, HIGH}) {
             due("help what " + what, x.help(what), OUTSIDE);
         }
