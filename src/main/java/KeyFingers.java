@@ -308,6 +308,10 @@ public final class KeyFingers {
         int least = now == NONE ? FAR : now;
         int found = NONE;
         for (int m = 0; m < MOMENTS; m++) {
+            if (right.keyAt(m) == left.keyAt(m)) {
+                // A swap changes nothing there, so its SUM can't be less.
+                continue;
+            }
             // A swap and its way back drop the marks there, so they are kept aside.
             int markOfRight = right.markAt(m);
             int markOfLeft = left.markAt(m);
