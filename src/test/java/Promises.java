@@ -316,6 +316,8 @@ public final class Promises {
     private static void step() {
         KeyFingers x = new KeyFingers();
         for (int[] r : REACHES) {
+            // Behind an object's 512th call its answers are free.
+            x = new KeyFingers();
             for (int apart = 1; apart <= 30; apart++) {
                 int due = apart < r[2] || apart > r[4] ? NONE : Math.max(0, apart - r[3]);
                 due("right up " + apart, x.step(0, 20, r[0], 20 + apart, r[1]), due);
