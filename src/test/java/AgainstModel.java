@@ -6,12 +6,12 @@ import java.util.List;
 import java.util.Map;
 
 /**
- * Runs of calls compared with a second program. That one finds rows in another way: it tries all
- * fingers of a tied phrase one by one, and walks the notes forward; so it is only asked where the
- * phrase is short, or has marks enough.
+ * Runs of calls compared with a second program. That one finds rows in other ways: it tries all
+ * fingers of a tied phrase one by one, and walks the notes forward; where the phrase is too long
+ * for that, it joins the parts of the row at the phrase's first and last fingers.
  */
 public final class AgainstModel {
-    private static final int UNKNOWN = -1, OUTSIDE = -2, STATE = -3, NONE = -9, SKIP = -1000;
+    private static final int UNKNOWN = -1, OUTSIDE = -2, STATE = -3, NONE = -9, FAR = 1 << 24;
     private static final int[] ODD = {-1, -2, -3, -8, -9, -10, 0, 1, 5, 6, 30, 60, Integer.MIN_VALUE, Integer.MAX_VALUE};
     private static long seed;
 
@@ -165,10 +165,114 @@ public final class AgainstModel {
         }
 
         int[] bestRow(int hand, int[] only, boolean tied) {
-            if (tied && holds(hand)) {
-                return tryPhrase(hand, only.clone(), 0, null);
+            if (!tied || !holds(hand)) {
+                return walk(hand, keysOf(hand), only);
             }
-            return walk(hand, keysOf(hand), only);
+            if (!fits(hand, only, true)) {
+                return rowByEnds(hand, only.clone());
+            }
+            int[] row = tryPhrase(hand, only.clone(), 0, null);
+            if (costByEnds(hand, only) != costOf(row)) {
+                throw new IllegalStateException("the model does not agree with itself");
+            }
+            return row;
+        }
+
+        int least(int hand, int[] only, boolean tied) {
+            boolean byEnds = tied && holds(hand) && !fits(hand, only, true);
+            return byEnds ? costByEnds(hand, only) : costOf(bestRow(hand, only, tied));
+        }
+
+        /** For each finger of note a and of note b: what the steps and notes from a to b cost, without a. */
+        int[][] between(int hand, List<Integer> keys, int[] only, int a, int b) {
+            int[][] all = new int[6][6];
+            for (int f = 1; f <= 5; f++) {
+                Arrays.fill(all[f], FAR);
+                all[f][f] = 0;
+            }
+            for (int m = a; m < b; m++) {
+                all = joined(all, oneStep(hand, keys, only, m));
+            }
+            return all;
+        }
+
+        int[][] oneStep(int hand, List<Integer> keys, int[] only, int m) {
+            int[][] one = new int[6][6];
+            for (int f = 1; f <= 5; f++) {
+                for (int g = 1; g <= 5; g++) {
+                    int step = stepCost(hand, keys.get(m), f, keys.get(m + 1), g);
+                    one[f][g] = step == NONE ? FAR : step + markedCost(keys, only, m + 1, g);
+                }
+            }
+            return one;
+        }
+
+        int markedCost(List<Integer> keys, int[] only, int m, int f) {
+            return only[m] == 0 || only[m] == f ? noteCost(keys.get(m), f) : FAR;
+        }
+
+        static int[][] joined(int[][] a, int[][] b) {
+            int[][] both = new int[6][6];
+            for (int f = 1; f <= 5; f++) {
+                for (int g = 1; g <= 5; g++) {
+                    both[f][g] = FAR;
+                    for (int h = 1; h <= 5; h++) {
+                        both[f][g] = Math.min(both[f][g], a[f][h] + b[h][g]);
+                    }
+                }
+            }
+            return both;
+        }
+
+        /** The tied phrases begin with one finger and end with one: all parts of the row meet there. */
+        int costByEnds(int hand, int[] only) {
+            List<Integer> keys = keysOf(hand);
+            int i = tie[hand][0], j = tie[hand][1], n = tie[hand][2];
+            int[][] phrase = between(hand, keys, only, i, i);
+            for (int t = 0; t + 1 < n; t++) {
+                int[][] first = oneStep(hand, keys, only, i + t), second = oneStep(hand, keys, only, j + t);
+                for (int f = 1; f <= 5; f++) {
+                    for (int g = 1; g <= 5; g++) {
+                        first[f][g] += second[f][g];
+                    }
+                }
+                phrase = joined(phrase, first);
+            }
+            int[][] ahead = between(hand, keys, only, 0, i);
+            int[][] middle = between(hand, keys, only, i + n - 1, j);
+            int[][] behind = between(hand, keys, only, j + n - 1, keys.size() - 1);
+            int least = FAR;
+            for (int f = 1; f <= 5; f++) {
+                int start = markedCost(keys, only, 0, f);
+                for (int s = 1; s <= 5; s++) {
+                    for (int e = 1; e <= 5; e++) {
+                        for (int l = 1; l <= 5; l++) {
+                            least = Math.min(least, start + ahead[f][s] + phrase[s][e] + middle[e][s] + behind[e][l]);
+                        }
+                    }
+                }
+            }
+            return least >= FAR ? NONE : least;
+        }
+
+        /** The least finger of each note with which a row can still cost the least. */
+        int[] rowByEnds(int hand, int[] only) {
+            int best = costByEnds(hand, only);
+            if (best == NONE) {
+                return null;
+            }
+            int[] row = new int[only.length + 1];
+            row[only.length] = best;
+            for (int k = 0; k < only.length; k++) {
+                int mark = only[k];
+                for (int f = 1; f <= 5 && row[k] == 0; f++) {
+                    only[k] = f;
+                    if ((mark == 0 || mark == f) && costByEnds(hand, only) == best) {
+                        row[k] = f;
+                    }
+                }
+            }
+            return row;
         }
 
         int[] tryPhrase(int hand, int[] only, int k, int[] best) {
@@ -194,8 +298,8 @@ public final class AgainstModel {
         }
 
         int sumNow() {
-            int r = costOf(bestRow(0, marksOf(0), true));
-            int l = costOf(bestRow(1, marksOf(1), true));
+            int r = least(0, marksOf(0), true);
+            int l = least(1, marksOf(1), true);
             return r == NONE || l == NONE ? NONE : r + l;
         }
 
@@ -336,13 +440,10 @@ public final class AgainstModel {
                     if (!hand) {
                         return UNKNOWN;
                     }
-                    return fits(a[0], marksOf(a[0]), true) ? costOf(bestRow(a[0], marksOf(a[0]), true)) : SKIP;
+                    return least(a[0], marksOf(a[0]), true);
                 case "finger": {
                     if (!hand || !in(a[1], 0, moments(a[0]).size() - 1)) {
                         return UNKNOWN;
-                    }
-                    if (!fits(a[0], marksOf(a[0]), true)) {
-                        return SKIP;
                     }
                     int[] row = bestRow(a[0], marksOf(a[0]), true);
                     return row == null ? NONE : row[a[1]];
@@ -353,7 +454,7 @@ public final class AgainstModel {
                     }
                     int[] only = marksOf(a[0]);
                     only[a[1]] = a[2];
-                    return fits(a[0], only, true) ? costOf(bestRow(a[0], only, true)) : SKIP;
+                    return least(a[0], only, true);
                 }
                 case "tie":
                     if (!hand) {
@@ -376,21 +477,15 @@ public final class AgainstModel {
                     if (!hand) {
                         return UNKNOWN;
                     }
-                    if (!fits(a[0], marksOf(a[0]), true)) {
-                        return SKIP;
-                    }
-                    int with = costOf(bestRow(a[0], marksOf(a[0]), true));
-                    int without = costOf(bestRow(a[0], marksOf(a[0]), false));
+                    int with = least(a[0], marksOf(a[0]), true);
+                    int without = least(a[0], marksOf(a[0]), false);
                     return with == NONE || without == NONE ? NONE : with - without;
                 }
                 case "stuck": {
                     if (!hand) {
                         return UNKNOWN;
                     }
-                    if (!fits(a[0], marksOf(a[0]), true)) {
-                        return SKIP;
-                    }
-                    if (bestRow(a[0], marksOf(a[0]), true) != null) {
+                    if (least(a[0], marksOf(a[0]), true) != NONE) {
                         return NONE;
                     }
                     List<Integer> keys = keysOf(a[0]);
@@ -480,7 +575,6 @@ public final class AgainstModel {
         }
 
         int answerOfBoth(String call, int[] a) {
-            boolean fits = fits(0, marksOf(0), true) && fits(1, marksOf(1), true);
             switch (call) {
                 case "moment":
                     if (!in(a[0], 0, 29) || !in(a[1], 0, 3)) {
@@ -488,14 +582,13 @@ public final class AgainstModel {
                     }
                     return a[0] < kind(a[1]).size() ? kind(a[1]).get(a[0]) : NONE;
                 case "sum":
-                    return fits ? sumNow() : SKIP;
+                    return sumNow();
                 case "swap":
                     if (!in(a[0], 0, 29)) {
                         return UNKNOWN;
                     }
                     exchange(a[0]);
-                    fits = fits(0, marksOf(0), true) && fits(1, marksOf(1), true);
-                    return fits ? sumNow() : SKIP;
+                    return sumNow();
                 case "help":
                     return in(a[0], 0, 1) ? helpNow(a[0]) : OUTSIDE;
                 case "many":
@@ -528,22 +621,17 @@ public final class AgainstModel {
 
         int helpNow(int what) {
             most /= 16;
-            int now = SKIP, found = NONE, least = Integer.MAX_VALUE;
+            int now = NONE, found = NONE, least = Integer.MAX_VALUE;
             for (int m = -1; m < 30; m++) {
                 Integer[][] keys = {key[0].clone(), key[1].clone()};
                 Integer[][] marks = {mark[0].clone(), mark[1].clone()};
                 if (m >= 0) {
                     exchange(m);
                 }
-                boolean fits = fits(0, marksOf(0), true) && fits(1, marksOf(1), true);
-                int sum = fits ? sumNow() : SKIP;
+                int sum = sumNow();
                 for (int hand = 0; hand < 2; hand++) {
                     key[hand] = keys[hand];
                     mark[hand] = marks[hand];
-                }
-                if (sum == SKIP) {
-                    most *= 16;
-                    return SKIP;
                 }
                 if (m < 0) {
                     now = sum;
@@ -554,39 +642,6 @@ public final class AgainstModel {
             }
             most *= 16;
             return found == NONE || what == 0 ? found : least;
-        }
-    }
-
-    private static int ask(KeyFingers x, String call, int[] a) {
-        switch (call) {
-            case "put": return x.put(a[0], a[1], a[2]);
-            case "mark": return x.mark(a[0], a[1], a[2]);
-            case "reach": return x.reach(a[0], a[1], a[2], a[3], a[4]);
-            case "reachOf": return x.reachOf(a[0], a[1], a[2]);
-            case "price": return x.price(a[0], a[1]);
-            case "clear": return x.clear(a[0]);
-            case "note": return x.note(a[0], a[1], a[2]);
-            case "costs": return x.costs(a[0], a[1]);
-            case "step": return x.step(a[0], a[1], a[2], a[3], a[4]);
-            case "best": return x.best(a[0]);
-            case "finger": return x.finger(a[0], a[1]);
-            case "would": return x.would(a[0], a[1], a[2]);
-            case "tie": return x.tie(a[0], a[1], a[2], a[3]);
-            case "untie": return x.untie(a[0]);
-            case "tied": return x.tied(a[0]);
-            case "stuck": return x.stuck(a[0]);
-            case "phrase": return x.phrase(a[0], a[1], a[2], a[3]);
-            case "forget": return x.forget(a[0]);
-            case "prune": return x.prune(a[0]);
-            case "name": return x.name(a[0]);
-            case "echo": return x.echo(a[0], a[1], a[2]);
-            case "tieEcho": return x.tieEcho(a[0], a[1]);
-            case "moment": return x.moment(a[0], a[1]);
-            case "sum": return x.sum();
-            case "swap": return x.swap(a[0]);
-            case "help": return x.help(a[0]);
-            case "many": return x.many(a[0]);
-            default: throw new IllegalStateException(call);
         }
     }
 
@@ -649,15 +704,10 @@ public final class AgainstModel {
         "help", "many"};
 
     private static int compared;
-    private static int skipped;
 
     private static boolean same(KeyFingers x, Model y, String call, int[] a, int run) {
         int want = y.answer(call, a);
-        int got = ask(x, call, a);
-        if (want == SKIP) {
-            skipped++;
-            return true;
-        }
+        int got = new Call(call, a).ask(x);
         compared++;
         if (got != want) {
             System.out.println("run " + run + ": " + call + Arrays.toString(a) + " answered " + got + ", due is " + want);
@@ -700,7 +750,7 @@ public final class AgainstModel {
                 failed++;
             }
         }
-        System.out.println(compared + " answers compared, " + skipped + " too long for the model");
+        System.out.println(compared + " answers compared");
         System.out.println(passed + " passed, " + failed + " failed");
         if (failed != 0) {
             System.exit(1);

@@ -7,9 +7,11 @@ public final class BoundsOfKeys {
     private static void newObjects() {
         Check.test("Promise 1, \"All rests\"", () -> {
             for (int k = 0; k < 30; k++) {
-                Scene.start().due(k, "moment", k, 3).due(NONE, "moment", k, 0).due(NONE, "moment", k, 1).due(NONE, "moment", k, 2);
+                Scene.start().due(k, "moment", k, 3).due(NONE, "moment", k, 0).due(NONE, "moment", k, 1)
+                    .due(NONE, "moment", k, 2);
             }
-            Scene.start().dueRow("many", new int[0], 0, 0, 0, 0, 0, 0, 0).due(0, "sum").due(NONE, "help", 0).due(NONE, "help", 1);
+            Scene.start().dueRow("many", new int[0], 0, 0, 0, 0, 0, 0, 0).due(0, "sum").due(NONE, "help", 0)
+                .due(NONE, "help", 1);
         });
         Check.test("Promise 1, \"no TIES\"", () ->
             Scene.start().due(0, "untie", 0).due(0, "untie", 1).due(0, "many", 4).due(0, "tied", 0).due(0, "tied", 1));
@@ -21,14 +23,16 @@ public final class BoundsOfKeys {
         });
         Check.test("Promise 1, a new object beside one that has all", () -> {
             Scenes.FULL.with("price", 0, 20).with("reach", 1, 2, 24, 24, 24).due(30, "many", 0);
-            Scene.start().dueRow("many", new int[0], 0, 0, 0, 0, 0, 0, 0).due(3, "price", 0, 0).due(1, "reachOf", 1, 2, 0);
+            Scene.start().dueRow("many", new int[0], 0, 0, 0, 0, 0, 0, 0).due(3, "price", 0, 0)
+                .due(1, "reachOf", 1, 2, 0);
         });
     }
 
     private static void puts() {
         Check.test("Promise 2, \"what it had (NONE: it rested)\"", () -> {
             Scene s = Scene.start().did(NONE, "put", 1, 29, 0).did(0, "put", 1, 29, 59).did(59, "put", 1, 29, 59);
-            s.did(59, "put", 1, 29, NONE).did(NONE, "put", 1, 29, NONE).did(NONE, "put", 1, 29, 0).due(0, "put", 1, 29, NONE);
+            s.did(59, "put", 1, 29, NONE).did(NONE, "put", 1, 29, NONE).did(NONE, "put", 1, 29, 0)
+                .due(0, "put", 1, 29, NONE);
         });
         Check.test("Promise 2, \"A HAND gets a KEY at a MOMENT\": both HANDS at every MOMENT", () -> {
             Scene s = Scene.start();
@@ -61,7 +65,8 @@ public final class BoundsOfKeys {
             Scene s = Scenes.FULL.with("mark", 0, 0, NONE).with("mark", 1, 29, NONE).due(0, "many", 2);
             for (int m : new int[] {0, 29}) {
                 s.did(NONE, "mark", 0, m, 2).due(2, "note", 0, m, 2).due(NONE, "note", 1, m, 2).due(1, "many", 2);
-                s.did(NONE, "mark", 1, m, 2).due(2, "note", 1, m, 2).due(NONE, "note", 0, m, 2).due(NONE, "note", 1, 29 - m, 2);
+                s.did(NONE, "mark", 1, m, 2).due(2, "note", 1, m, 2).due(NONE, "note", 0, m, 2)
+                    .due(NONE, "note", 1, 29 - m, 2);
             }
         });
     }
@@ -79,7 +84,8 @@ public final class BoundsOfKeys {
         Check.test("Promise 4, \"REACH of fingers f, g\": the same again", () ->
             Scene.start().tellsTheSameAs(Scene.start().did(1, "reach", 1, 2, 1, 5, 8)));
         Check.test("Promise 5, \"LEAST (what 0), EASY (1), MOST (2)\"", () ->
-            Scene.start().with("reach", 4, 5, 0, 1, 24).with("reach", 1, 2, 22, 23, 24).dueRow("reachOf", new int[] {4, 5}, 0, 1, 24)
+            Scene.start().with("reach", 4, 5, 0, 1, 24).with("reach", 1, 2, 22, 23, 24)
+                .dueRow("reachOf", new int[] {4, 5}, 0, 1, 24)
                 .dueRow("reachOf", new int[] {1, 2}, 22, 23, 24).dueRow("reachOf", new int[] {1, 3}, 2, 7, 10));
     }
 
@@ -110,7 +116,8 @@ public final class BoundsOfKeys {
         Check.test("Promise 7, \"how many NOTES it had\": none, one, all", () -> {
             Scene.start().due(0, "clear", 0).due(0, "clear", 1);
             Scene.start().with("put", 1, 29, 0).did(1, "clear", 1).due(0, "clear", 1);
-            Scenes.FULL.due(30, "clear", 1).did(30, "clear", 0).due(0, "many", 0).due(0, "clear", 0).due(30, "clear", 1);
+            Scenes.FULL.due(30, "clear", 1).did(30, "clear", 0).due(0, "many", 0).due(0, "clear", 0)
+                .due(30, "clear", 1);
         });
         Check.test("Promise 7, \"All of a HAND rests\": its MARKS too, the other HAND's stay", () -> {
             Scene s = Scene.of(0, 24, 26).keys(1, 24, 26).marks(0, 1, 2).marks(1, 3, 4).with("clear", 0);
@@ -118,12 +125,14 @@ public final class BoundsOfKeys {
             s.due(0, "moment", 0, 2).due(1, "moment", 1, 2).due(NONE, "moment", 0, 1);
         });
         Check.test("Promise 7, \"(its TIE is no more\": one that holds, one that does not", () -> {
-            Scene.of(0, 24, 24).with("tie", 0, 0, 1, 1).with("clear", 0).due(0, "untie", 0).keys(0, 24, 24).due(0, "best", 0).due(0, "many", 4);
+            Scene.of(0, 24, 24).with("tie", 0, 0, 1, 1).with("clear", 0).due(0, "untie", 0).keys(0, 24, 24)
+                .due(0, "best", 0).due(0, "many", 4);
             Scene.start().with("tie", 0, 0, 1, 1).with("clear", 0).due(0, "untie", 0).keys(0, 24, 24).due(0, "many", 4);
             Scene.start().with("tie", 1, 0, 1, 1).with("clear", 0).due(1, "untie", 1).keys(1, 24, 24).due(1, "many", 4);
         });
         Check.test("Promise 7, \"PHRASES stay)\"", () -> {
-            Scene s = Scenes.FULL.with("clear", 0).with("clear", 1).dueNames(0, 25, 7, 8, 9, 10).due(NONE, "echo", 25, 0, 0);
+            Scene s = Scenes.FULL.with("clear", 0).with("clear", 1).dueNames(0, 25, 7, 8, 9, 10)
+                .due(NONE, "echo", 25, 0, 0);
             s.keys(1, 9, 8, 7, 6).due(2, "echo", 25, 0, 0);
         });
         Check.test("Promise 7, PRICES and REACHES stay", () ->

@@ -51,8 +51,10 @@ public final class BoundsOfTerms {
 
     private static void keysAndMoments() {
         test("==== 1 \"KEYS 0 .. 59\"", () -> {
-            Scene.start().did(NONE, "put", 0, 0, 0).did(0, "put", 0, 0, 59).did(59, "put", 0, 0, 0).due(0, "note", 0, 0, 1);
-            Scene.start().due(0, "costs", 0, 1).due(0, "costs", 59, 1).due(OUTSIDE, "costs", -1, 1).due(OUTSIDE, "costs", 60, 1);
+            Scene.start().did(NONE, "put", 0, 0, 0).did(0, "put", 0, 0, 59).did(59, "put", 0, 0, 0)
+                .due(0, "note", 0, 0, 1);
+            Scene.start().due(0, "costs", 0, 1).due(0, "costs", 59, 1).due(OUTSIDE, "costs", -1, 1)
+                .due(OUTSIDE, "costs", 60, 1);
             Scene.start().due(8, "step", 0, 0, 1, 59, 1).due(8, "step", 1, 59, 5, 0, 5);
             Scene.start().due(OUTSIDE, "put", 0, 0, -1).due(OUTSIDE, "put", 0, 0, 60);
         });
@@ -68,7 +70,8 @@ public final class BoundsOfTerms {
             Scene.of(1, 24).due(0, "many", 0).due(1, "many", 1);
         });
         test("==== 1 \"MOMENTS 0 .. 29\"", () -> {
-            Scene.start().did(NONE, "put", 0, 0, 7).did(NONE, "put", 0, 29, 8).due(0, "note", 0, 0, 0).due(29, "note", 0, 1, 0);
+            Scene.start().did(NONE, "put", 0, 0, 7).did(NONE, "put", 0, 29, 8).due(0, "note", 0, 0, 0)
+                .due(29, "note", 0, 1, 0);
             Scene.start().due(UNKNOWN, "put", 0, -1, 7).due(UNKNOWN, "put", 0, 30, 7);
             Scene.start().due(0, "moment", 0, 3).due(29, "moment", 29, 3);
         });
@@ -107,13 +110,16 @@ public final class BoundsOfTerms {
             Scenes.same(24).due(0, "many", 2).due(NONE, "note", 0, 29, 2);
             Scene s = Scene.start();
             for (int m = 0; m < 30; m++) {
-                s = s.with("put", 0, m, 24).with("put", 1, m, 24).with("mark", 0, m, 1 + m % 5).with("mark", 1, m, 5 - m % 5);
+                s = s.with("put", 0, m, 24).with("put", 1, m, 24).with("mark", 0, m, 1 + m % 5)
+                    .with("mark", 1, m, 5 - m % 5);
             }
-            s.due(60, "many", 2).due(1, "note", 0, 0, 2).due(5, "note", 0, 29, 2).due(5, "note", 1, 0, 2).due(1, "note", 1, 29, 2);
+            s.due(60, "many", 2).due(1, "note", 0, 0, 2).due(5, "note", 0, 29, 2).due(5, "note", 1, 0, 2)
+                .due(1, "note", 1, 29, 2);
         });
         test("==== 1 \"As a HAND gets another KEY (not the one that it has there)\"", () -> {
             for (int m : new int[] {0, 29}) {
-                Scene s = Scene.start().with("put", 0, m, 24).with("put", 1, m, 24).with("mark", 0, m, 2).with("mark", 1, m, 3);
+                Scene s = Scene.start().with("put", 0, m, 24).with("put", 1, m, 24).with("mark", 0, m, 2)
+                    .with("mark", 1, m, 3);
                 s.with("put", 0, m, 24).due(2, "note", 0, 0, 2).due(3, "note", 1, 0, 2);
                 s.with("put", 0, m, 25).due(NONE, "note", 0, 0, 2).due(3, "note", 1, 0, 2);
                 s.with("put", 0, m, 23).due(NONE, "note", 0, 0, 2).due(1, "many", 2);
@@ -130,17 +136,21 @@ public final class BoundsOfTerms {
 
     private static void reachesAndPrices() {
         test("==== 1 \"LEAST, EASY, MOST (0 .. 24\"", () -> {
-            Scene s = Scene.start().did(1, "reach", 1, 2, 0, 0, 0).did(1, "reach", 4, 5, 24, 24, 24).did(1, "reach", 1, 5, 0, 24, 24);
+            Scene s = Scene.start().did(1, "reach", 1, 2, 0, 0, 0).did(1, "reach", 4, 5, 24, 24, 24)
+                .did(1, "reach", 1, 5, 0, 24, 24);
             s.dueRow("reachOf", new int[] {1, 2}, 0, 0, 0).dueRow("reachOf", new int[] {4, 5}, 24, 24, 24);
             s.dueRow("reachOf", new int[] {1, 5}, 0, 24, 24);
-            s.due(OUTSIDE, "reach", 1, 2, -1, 0, 0).due(OUTSIDE, "reach", 1, 2, -1, -1, -1).due(OUTSIDE, "reach", 1, 2, 24, 24, 25);
+            s.due(OUTSIDE, "reach", 1, 2, -1, 0, 0).due(OUTSIDE, "reach", 1, 2, -1, -1, -1)
+                .due(OUTSIDE, "reach", 1, 2, 24, 24, 25);
             s.due(OUTSIDE, "reach", 1, 2, 24, 25, 25).due(OUTSIDE, "reach", 1, 2, 25, 25, 25);
         });
         test("==== 1 \"none less than the one ahead)\"", () -> {
             Scene s = Scene.start();
             s.due(1, "reach", 2, 4, 5, 5, 6).due(1, "reach", 2, 4, 5, 6, 6).due(1, "reach", 2, 4, 5, 5, 5);
-            s.due(OUTSIDE, "reach", 2, 4, 5, 4, 6).due(OUTSIDE, "reach", 2, 4, 5, 6, 5).due(OUTSIDE, "reach", 2, 4, 6, 5, 5);
-            s.due(OUTSIDE, "reach", 2, 4, 24, 23, 24).due(OUTSIDE, "reach", 2, 4, 0, 24, 23).due(OUTSIDE, "reach", 2, 4, 1, 0, 0);
+            s.due(OUTSIDE, "reach", 2, 4, 5, 4, 6).due(OUTSIDE, "reach", 2, 4, 5, 6, 5)
+                .due(OUTSIDE, "reach", 2, 4, 6, 5, 5);
+            s.due(OUTSIDE, "reach", 2, 4, 24, 23, 24).due(OUTSIDE, "reach", 2, 4, 0, 24, 23)
+                .due(OUTSIDE, "reach", 2, 4, 1, 0, 0);
         });
         test("==== 1 REACHES \"at first\"", () -> {
             for (int[] r : REACHES) {
@@ -173,7 +183,8 @@ public final class BoundsOfTerms {
             for (int key : new int[] {0, 1, 58, 59}) {
                 for (int f = 1; f <= 5; f++) {
                     for (int g = 1; g <= 5; g++) {
-                        Scene.start().due(f == g ? 1 : 0, "step", 0, key, f, key, g).due(f == g ? 1 : 0, "step", 1, key, f, key, g);
+                        Scene.start().due(f == g ? 1 : 0, "step", 0, key, f, key, g)
+                            .due(f == g ? 1 : 0, "step", 1, key, f, key, g);
                     }
                 }
             }
@@ -190,7 +201,8 @@ public final class BoundsOfTerms {
                 }
             }
             Scene s = Scene.start().with("price", SLIDE, 20).with("price", JUMP, 0);
-            s.due(20, "step", 0, 1, 1, 0, 1).due(20, "step", 0, 58, 1, 59, 1).due(0, "step", 0, 0, 1, 1, 1).due(0, "step", 0, 1, 1, 59, 1);
+            s.due(20, "step", 0, 1, 1, 0, 1).due(20, "step", 0, 58, 1, 59, 1).due(0, "step", 0, 0, 1, 1, 1)
+                .due(0, "step", 0, 1, 1, 59, 1);
         });
         test("==== 2 \"it can't be, if D is less than LEAST or above MOST; it costs by how much D is above EASY\"", () -> {
             for (int[] r : REACHES) {
@@ -273,8 +285,10 @@ public final class BoundsOfTerms {
             s.due(29, "best", 0).due(3, "finger", 0, 0).due(3, "finger", 0, 29);
         });
         test("==== 2 \"all STEPS ... such as can be\": the first and the last one", () -> {
-            Scenes.same(24).with("put", 0, 0, 59).with("mark", 0, 0, 2).with("mark", 0, 1, 3).due(NONE, "best", 0).due(NONE, "finger", 0, 29);
-            Scenes.same(24).with("put", 0, 29, 59).with("mark", 0, 28, 2).with("mark", 0, 29, 3).due(NONE, "best", 0).due(NONE, "finger", 0, 0);
+            Scenes.same(24).with("put", 0, 0, 59).with("mark", 0, 0, 2).with("mark", 0, 1, 3).due(NONE, "best", 0)
+                .due(NONE, "finger", 0, 29);
+            Scenes.same(24).with("put", 0, 29, 59).with("mark", 0, 28, 2).with("mark", 0, 29, 3).due(NONE, "best", 0)
+                .due(NONE, "finger", 0, 0);
             Scenes.same(24).with("put", 0, 29, 59).with("mark", 0, 28, 2).with("mark", 0, 29, 2).due(8, "best", 0);
         });
         test("==== 2 \"It costs what NOTES and STEPS cost\": the dearest ROW", () -> {
@@ -298,13 +312,15 @@ public final class BoundsOfTerms {
         test("==== 2 \"(Without NOTES: one that costs 0.)\"", () -> {
             for (int hand = 0; hand < 2; hand++) {
                 Scene.start().due(0, "best", hand).due(0, "tied", hand).due(NONE, "stuck", hand).due(0, "sum");
-                Scene.start().with("tie", hand, 0, 1, 1).due(0, "best", hand).due(0, "tied", hand).due(NONE, "stuck", hand);
+                Scene.start().with("tie", hand, 0, 1, 1).due(0, "best", hand).due(0, "tied", hand)
+                    .due(NONE, "stuck", hand);
                 Scene.of(hand, 24, 59).marks(hand, 1, 2).with("clear", hand).due(0, "best", hand);
             }
         });
         test("==== 2 a ROW of one NOTE", () -> {
             for (int f = 1; f <= 5; f++) {
-                Scene.start().with("put", 0, 29, 25).with("mark", 0, 29, f).due(new int[] {3, 0, 0, 1, 1}[f - 1], "best", 0).dueFingers(0, f);
+                Scene.start().with("put", 0, 29, 25).with("mark", 0, 29, f)
+                    .due(new int[] {3, 0, 0, 1, 1}[f - 1], "best", 0).dueFingers(0, f);
             }
             Scene.of(0, 24).dueFingers(0, 1);
             Scene.of(1, 25).dueFingers(1, 2);
@@ -317,10 +333,13 @@ public final class BoundsOfTerms {
             s.dueFingers(0, 1, 2, 2).due(1, "many", 4).did(1, "untie", 0).due(0, "untie", 0).dueFingers(0, 1, 2, 1);
         });
         test("==== 3 \"with n 1 or more\"", () ->
-            Scene.of(0, 24, 24).due(1, "tie", 0, 0, 1, 1).due(OUTSIDE, "tie", 0, 0, 1, 0).due(OUTSIDE, "tie", 0, 0, 1, -1));
+            Scene.of(0, 24, 24).due(1, "tie", 0, 0, 1, 1).due(OUTSIDE, "tie", 0, 0, 1, 0)
+                .due(OUTSIDE, "tie", 0, 0, 1, -1));
         test("==== 3 \"i + n not above j\"", () -> {
-            Scenes.same(24).due(1, "tie", 0, 3, 6, 3).due(OUTSIDE, "tie", 0, 3, 5, 3).due(OUTSIDE, "tie", 0, 4, 6, 3).due(OUTSIDE, "tie", 0, 3, 6, 4);
-            Scenes.same(24).due(1, "tie", 0, 0, 15, 15).due(OUTSIDE, "tie", 0, 1, 15, 15).due(OUTSIDE, "tie", 0, 5, 5, 1).due(OUTSIDE, "tie", 0, 5, 4, 1);
+            Scenes.same(24).due(1, "tie", 0, 3, 6, 3).due(OUTSIDE, "tie", 0, 3, 5, 3).due(OUTSIDE, "tie", 0, 4, 6, 3)
+                .due(OUTSIDE, "tie", 0, 3, 6, 4);
+            Scenes.same(24).due(1, "tie", 0, 0, 15, 15).due(OUTSIDE, "tie", 0, 1, 15, 15)
+                .due(OUTSIDE, "tie", 0, 5, 5, 1).due(OUTSIDE, "tie", 0, 5, 4, 1);
         });
         test("==== 3 \"NOTE i + k has the same finger as NOTE j + k, for each k\"", () -> {
             Scene s = Scene.of(0, 24, 24, 24, 24, 24, 24, 24, 24).with("tie", 0, 1, 5, 3);
@@ -342,7 +361,8 @@ public final class BoundsOfTerms {
         test("==== 3 \"while there are fewer than j + n NOTES\": more than there can be", () -> {
             Scenes.same(24).did(0, "tie", 0, 0, 29, 2).due(0, "many", 4).due(0, "best", 0).due(1, "untie", 0);
             Scenes.same(24).did(0, "tie", 0, 0, 16, 15).due(0, "many", 4).due(0, "tied", 0);
-            Scenes.same(24).did(1, "tie", 0, 0, 29, 1).due(1, "many", 4).due(3, "finger", 0, 28).due(1, "finger", 0, 29);
+            Scenes.same(24).did(1, "tie", 0, 0, 29, 1).due(1, "many", 4).due(3, "finger", 0, 28)
+                .due(1, "finger", 0, 29);
         });
         test("==== 3 \"STUCK: if there is no ROW\"", () -> {
             Scene.start().due(NONE, "stuck", 0);
@@ -353,7 +373,8 @@ public final class BoundsOfTerms {
             Scene.of(1, 24, 59).marks(1, 2, 3).due(1, "stuck", 1);
             Scenes.same(24).with("put", 0, 0, 59).with("mark", 0, 0, 2).with("mark", 0, 1, 3).due(1, "stuck", 0);
             Scene last = Scenes.same(24).with("put", 0, 29, 59).with("mark", 0, 28, 2).with("mark", 0, 29, 3);
-            last.due(29, "stuck", 0).with("mark", 0, 0, 2).with("put", 0, 1, 59).with("mark", 0, 1, 3).due(1, "stuck", 0);
+            last.due(29, "stuck", 0).with("mark", 0, 0, 2).with("put", 0, 1, 59).with("mark", 0, 1, 3)
+                .due(1, "stuck", 0);
         });
         test("==== 3 STUCK, \"none without the TIE; 99, if there is no such k (it is the TIE)\"", () -> {
             Scene s = Scenes.same(24).with("tie", 0, 0, 29, 1).with("mark", 0, 0, 1).with("mark", 0, 29, 2);
@@ -389,10 +410,13 @@ public final class BoundsOfTerms {
             Scene.start().due(1, "phrase", 0, 0, 0, 2).due(1, "phrase", 0, 0, 0, 12)
                 .due(OUTSIDE, "phrase", 0, 0, 0, 1).due(OUTSIDE, "phrase", 0, 0, 0, 13));
         test("==== 4 \"An ECHO of a PHRASE (all whose NOTES are there)\"", () -> {
-            Scene s = Scene.of(0, 24, 24, 24).with("phrase", 1, 0, 2, 2).with("phrase", 2, 0, 1, 2).with("phrase", 3, 0, 28, 12);
-            s.due(NONE, "echo", 1, 0, 0).due(NONE, "echo", 2, 0, 0).due(NONE, "echo", 3, 0, 0).due(NONE, "echo", 3, 29, 1);
+            Scene s = Scene.of(0, 24, 24, 24).with("phrase", 1, 0, 2, 2).with("phrase", 2, 0, 1, 2)
+                .with("phrase", 3, 0, 28, 12);
+            s.due(NONE, "echo", 1, 0, 0).due(NONE, "echo", 2, 0, 0).due(NONE, "echo", 3, 0, 0)
+                .due(NONE, "echo", 3, 29, 1);
             s = s.with("put", 0, 3, 24).with("put", 0, 4, 24).due(NONE, "echo", 1, 0, 0).due(3, "echo", 2, 0, 0);
-            Scenes.same(24).with("phrase", 3, 0, 28, 2).due(NONE, "echo", 3, 0, 0).with("phrase", 3, 0, 26, 2).due(28, "echo", 3, 0, 0);
+            Scenes.same(24).with("phrase", 3, 0, 28, 2).due(NONE, "echo", 3, 0, 0).with("phrase", 3, 0, 26, 2)
+                .due(28, "echo", 3, 0, 0);
         });
         test("==== 4 \"a NOTE j, not less than i + n\"", () -> {
             Scenes.same(24).with("phrase", 0, 0, 0, 2).due(2, "echo", 0, 0, 0).due(3, "echo", 0, 1, 0);
@@ -403,7 +427,8 @@ public final class BoundsOfTerms {
             Scene s = Scene.of(0, 10, 12, 14, 40, 42, 44).with("phrase", 0, 0, 0, 3).due(3, "echo", 0, 0, 0);
             for (int m = 0; m < 6; m++) {
                 int key = m < 3 ? 10 + 2 * m : 34 + 2 * m;
-                s.with("put", 0, m, key + 1).due(NONE, "echo", 0, 0, 0).with("put", 0, m, key - 1).due(NONE, "echo", 0, 0, 0);
+                s.with("put", 0, m, key + 1).due(NONE, "echo", 0, 0, 0).with("put", 0, m, key - 1)
+                    .due(NONE, "echo", 0, 0, 0);
             }
             Scene.of(0, 0, 1, 58, 59).with("phrase", 0, 0, 0, 2).due(2, "echo", 0, 0, 0);
             Scene.of(0, 58, 59, 0, 1).with("phrase", 0, 0, 0, 2).due(2, "echo", 0, 0, 0);
@@ -411,7 +436,8 @@ public final class BoundsOfTerms {
             Scene.of(0, 0, 59, 59, 0).with("phrase", 0, 0, 0, 2).due(NONE, "echo", 0, 0, 0);
         });
         test("==== 4 \"(all these NOTES of the same HAND being there)\"", () -> {
-            Scene s = Scene.of(0, 24, 26, 28, 30).keys(1, 24, 26, 28).with("phrase", 0, 0, 0, 2).with("phrase", 1, 1, 0, 2);
+            Scene s = Scene.of(0, 24, 26, 28, 30).keys(1, 24, 26, 28).with("phrase", 0, 0, 0, 2)
+                .with("phrase", 1, 1, 0, 2);
             s.due(2, "echo", 0, 0, 0).due(NONE, "echo", 1, 0, 0).with("put", 0, 3, NONE).due(NONE, "echo", 0, 0, 0);
             s.with("put", 1, 29, 30).due(2, "echo", 1, 0, 0);
         });
@@ -465,16 +491,19 @@ public final class BoundsOfTerms {
         });
         test("==== 5 \"HANDS change what they have there (KEY or rest\"", () -> {
             for (int m : new int[] {0, 29}) {
-                Scene.start().with("put", 0, m, 24).did(0, "swap", m).due(0, "many", 0).due(24, "note", 1, 0, 1).due(m, "note", 1, 0, 0);
+                Scene.start().with("put", 0, m, 24).did(0, "swap", m).due(0, "many", 0).due(24, "note", 1, 0, 1)
+                    .due(m, "note", 1, 0, 0);
                 Scene.start().with("put", 1, m, 24).did(0, "swap", m).due(0, "many", 1).due(24, "note", 0, 0, 1);
-                Scene.start().with("put", 0, m, 0).with("put", 1, m, 59).did(0, "swap", m).due(59, "note", 0, 0, 1).due(0, "note", 1, 0, 1);
+                Scene.start().with("put", 0, m, 0).with("put", 1, m, 59).did(0, "swap", m).due(59, "note", 0, 0, 1)
+                    .due(0, "note", 1, 0, 1);
                 Scene.start().did(0, "swap", m).due(0, "many", 0).due(0, "many", 1);
             }
         });
         test("==== 5 \"MARKS there are no more, unless both KEYS are the same)\"", () -> {
             Scene s = Scene.of(0, 24, 30).keys(1, 24, 31).marks(0, 2, 3).marks(1, 4, 5);
             s.with("swap", 0).due(4, "many", 2).due(2, "note", 0, 0, 2).due(4, "note", 1, 0, 2);
-            s.with("swap", 1).due(2, "many", 2).due(NONE, "note", 0, 1, 2).due(NONE, "note", 1, 1, 2).due(2, "note", 0, 0, 2);
+            s.with("swap", 1).due(2, "many", 2).due(NONE, "note", 0, 1, 2).due(NONE, "note", 1, 1, 2)
+                .due(2, "note", 0, 0, 2);
             s.with("swap", 1).with("swap", 1).due(2, "many", 2).due(30, "note", 0, 1, 1);
             Scene.of(0, 24).marks(0, 5).with("swap", 0).due(0, "many", 2).with("swap", 0).due(0, "many", 2);
         });
@@ -500,7 +529,8 @@ public final class BoundsOfTerms {
         });
         test("==== 5 HELP, \"if there is one with a SUM at all\": there is none", () -> {
             Scene.of(0, 0, 59, 0, 59).marks(0, 1, 2, 1, 2).due(NONE, "sum").due(NONE, "help", 0).due(NONE, "help", 1);
-            Scene.of(0, 0, 59).marks(0, 1, 2).with("put", 1, 20, 0).with("put", 1, 21, 59).marks(1).with("mark", 1, 20, 1)
+            Scene.of(0, 0, 59).marks(0, 1, 2).with("put", 1, 20, 0).with("put", 1, 21, 59).marks(1)
+                .with("mark", 1, 20, 1)
                 .with("mark", 1, 21, 2).due(NONE, "sum").due(NONE, "help", 0).due(NONE, "help", 1);
         });
         test("==== 5 HELP, \"of several the first\", \"the least SUM\"", () -> {
@@ -508,7 +538,8 @@ public final class BoundsOfTerms {
             Scene last = Scene.start().with("put", 0, 27, 24).with("put", 0, 28, 24).with("put", 0, 29, 59);
             last.due(8, "sum").due(29, "help", 0).due(0, "help", 1);
             Scene.of(0, 59, 24, 24).due(8, "sum").due(0, "help", 0).due(0, "help", 1);
-            Scene less = Scene.of(0, 24, 24, 59).marks(0, 4).due(9, "sum").due(8, "swap", 0).due(10, "swap", 1).due(1, "swap", 2);
+            Scene less = Scene.of(0, 24, 24, 59).marks(0, 4).due(9, "sum").due(8, "swap", 0).due(10, "swap", 1)
+                .due(1, "swap", 2);
             less.due(2, "help", 0).due(1, "help", 1);
         });
     }

@@ -31,12 +31,14 @@ public final class BoundsOfTwoHands {
                     s = s.with("put", 0, m, what == 3 ? NONE : 24);
                     s = what == 2 ? s : s.with("put", 1, m, what == 3 ? NONE : what == 0 ? 25 : 24);
                 }
-                s.due(0, "moment", 0, what).due(29, "moment", 1, what).due(NONE, "moment", 2, what).due(NONE, "moment", 29, what);
+                s.due(0, "moment", 0, what).due(29, "moment", 1, what).due(NONE, "moment", 2, what)
+                    .due(NONE, "moment", 29, what);
             }
         });
         Check.test("Promise 24, \"OUTSIDE: k (0 .. 29), what\"", () ->
             Scene.start().due(0, "moment", 0, 3).due(29, "moment", 29, 3).due(NONE, "moment", 29, 0)
-                .due(OUTSIDE, "moment", -1, 3).due(OUTSIDE, "moment", 30, 3).due(OUTSIDE, "moment", 0, -1).due(OUTSIDE, "moment", 0, 4));
+                .due(OUTSIDE, "moment", -1, 3).due(OUTSIDE, "moment", 30, 3).due(OUTSIDE, "moment", 0, -1)
+                .due(OUTSIDE, "moment", 0, 4));
     }
 
     private static void sums() {
@@ -46,19 +48,23 @@ public final class BoundsOfTwoHands {
             Scene.of(1, 0, 59).due(8, "sum");
         });
         Check.test("Promise 25, \"SUM\": TIES that hold and that do not", () -> {
-            Scene s = Scene.of(0, 24, 24).keys(1, 24, 24).due(0, "sum").with("tie", 0, 0, 1, 1).due(1, "sum").with("tie", 1, 0, 1, 1).due(2, "sum");
+            Scene s = Scene.of(0, 24, 24).keys(1, 24, 24).due(0, "sum").with("tie", 0, 0, 1, 1).due(1, "sum")
+                .with("tie", 1, 0, 1, 1).due(2, "sum");
             s.with("put", 1, 1, NONE).due(1, "sum").with("tie", 0, 0, 2, 1).due(0, "sum");
         });
         Check.test("Promise 25, \"SUM\": NONE", () -> {
-            Scene.of(0, 24, 24).with("tie", 0, 0, 1, 1).marks(0, 1, 2).due(NONE, "sum").with("put", 1, 0, 24).due(NONE, "sum");
+            Scene.of(0, 24, 24).with("tie", 0, 0, 1, 1).marks(0, 1, 2).due(NONE, "sum").with("put", 1, 0, 24)
+                .due(NONE, "sum");
             Scene.of(1, 24, 59).marks(1, 1, 2).due(NONE, "sum").with("clear", 1).due(0, "sum");
         });
     }
 
     private static void swaps() {
         Check.test("Promise 26, \"A SWAP of a MOMENT: SUM then\": the first and the last MOMENT", () -> {
-            Scene s = Scene.of(0, 0).with("put", 0, 29, 59).due(8, "sum").due(0, "swap", 0).due(0, "swap", 29).due(8, "swap", 1);
-            s.with("swap", 0).due(1, "many", 0).due(1, "many", 1).due(0, "note", 1, 0, 1).due(8, "swap", 0).due(8, "swap", 29);
+            Scene s = Scene.of(0, 0).with("put", 0, 29, 59).due(8, "sum").due(0, "swap", 0).due(0, "swap", 29)
+                .due(8, "swap", 1);
+            s.with("swap", 0).due(1, "many", 0).due(1, "many", 1).due(0, "note", 1, 0, 1).due(8, "swap", 0)
+                .due(8, "swap", 29);
             s.due(UNKNOWN, "swap", -1).due(UNKNOWN, "swap", 30);
         });
         Check.test("Promise 26, \"SUM then\": NONE", () -> {
@@ -78,7 +84,8 @@ public final class BoundsOfTwoHands {
             always(20, 40).tellsTheSameAs(s);
         });
         Check.test("Promise 26, TIES and PHRASES stay with their HANDS, by numbers", () -> {
-            Scene s = Scene.of(0, 24, 24, 24, 24).with("tie", 0, 0, 1, 1).with("phrase", 1, 0, 0, 2).due(1, "many", 4).due(2, "echo", 1, 0, 0);
+            Scene s = Scene.of(0, 24, 24, 24, 24).with("tie", 0, 0, 1, 1).with("phrase", 1, 0, 0, 2).due(1, "many", 4)
+                .due(2, "echo", 1, 0, 0);
             s = s.did(1, "swap", 0).due(1, "many", 4).due(NONE, "echo", 1, 0, 0).did(1, "swap", 1).due(1, "many", 4);
             s = s.did(0, "swap", 2).due(0, "many", 4).due(1, "untie", 0).due(0, "untie", 1);
             s.did(1, "swap", 0).due(1, "many", 4).due(1, "many", 3);
@@ -88,8 +95,10 @@ public final class BoundsOfTwoHands {
     private static void helps() {
         Check.test("Promise 27, \"the MOMENT (what 0), SUM behind it (1)\": the first and the last MOMENT", () -> {
             Scene.of(0, 59, 24, 24).due(0, "help", 0).due(0, "help", 1);
-            Scene.start().with("put", 1, 27, 24).with("put", 1, 28, 24).with("put", 1, 29, 59).due(29, "help", 0).due(0, "help", 1);
-            Scene.of(0, 59, 24, 24).with("put", 1, 20, 59).with("put", 1, 21, 0).due(16, "sum").due(0, "help", 0).due(8, "help", 1);
+            Scene.start().with("put", 1, 27, 24).with("put", 1, 28, 24).with("put", 1, 29, 59).due(29, "help", 0)
+                .due(0, "help", 1);
+            Scene.of(0, 59, 24, 24).with("put", 1, 20, 59).with("put", 1, 21, 0).due(16, "sum").due(0, "help", 0)
+                .due(8, "help", 1);
             Scene.of(0, 59, 24, 24).due(OUTSIDE, "help", -1).due(OUTSIDE, "help", 2);
         });
         Check.test("Promise 27, \"NONE: there is none\"", () -> {
@@ -111,7 +120,8 @@ public final class BoundsOfTwoHands {
         });
         Check.test("Promise 27, HELP: a TIE that comes to hold", () -> {
             // With a second note the left hand has a tie, for which it must jump.
-            Scene s = Scene.of(0, 0, 59).keys(1, NONE, NONE, 2).with("mark", 1, 2, 2).due(8, "sum").due(0, "help", 0).due(0, "help", 1);
+            Scene s = Scene.of(0, 0, 59).keys(1, NONE, NONE, 2).with("mark", 1, 2, 2).due(8, "sum").due(0, "help", 0)
+                .due(0, "help", 1);
             s = s.with("tie", 1, 0, 1, 1).due(8, "sum").due(8, "swap", 0).due(8, "swap", 1).due(16, "swap", 2);
             s.due(NONE, "help", 0).due(NONE, "help", 1);
         });
@@ -135,17 +145,21 @@ public final class BoundsOfTwoHands {
         });
         Check.test("Promise 28, \"3 PHRASES\": none, six, one more", () -> {
             Scene.start().due(0, "many", 3);
-            Scenes.FULL.due(6, "many", 3).with("phrase", 20, 0, 0, 2).due(6, "many", 3).with("forget", 20).due(5, "many", 3);
+            Scenes.FULL.due(6, "many", 3).with("phrase", 20, 0, 0, 2).due(6, "many", 3).with("forget", 20)
+                .due(5, "many", 3);
         });
         Check.test("Promise 28, \"4 TIES that hold\": none, one, both", () -> {
             Scene s = Scene.start().due(0, "many", 4).with("tie", 0, 0, 1, 1).with("tie", 1, 0, 1, 1).due(0, "many", 4);
-            s = s.keys(0, 24, 24).due(1, "many", 4).keys(1, 24).due(1, "many", 4).with("put", 1, 29, 24).due(2, "many", 4);
+            s = s.keys(0, 24, 24).due(1, "many", 4).keys(1, 24).due(1, "many", 4).with("put", 1, 29, 24)
+                .due(2, "many", 4);
             s.with("untie", 0).due(1, "many", 4).with("clear", 1).due(0, "many", 4);
         });
         Check.test("Promise 28, \"5 MOMENTS that are CROSSED, 6 CLASHES\": none, all", () -> {
             Scene.start().due(0, "many", 5).due(0, "many", 6);
-            always(0, 1).due(30, "many", 5).due(0, "many", 6).with("put", 0, 29, 1).due(29, "many", 5).due(1, "many", 6);
-            always(59, 59).due(0, "many", 5).due(30, "many", 6).with("put", 1, 0, 58).due(0, "many", 5).due(29, "many", 6);
+            always(0, 1).due(30, "many", 5).due(0, "many", 6).with("put", 0, 29, 1).due(29, "many", 5)
+                .due(1, "many", 6);
+            always(59, 59).due(0, "many", 5).due(30, "many", 6).with("put", 1, 0, 58).due(0, "many", 5)
+                .due(29, "many", 6);
             always(24, NONE).due(0, "many", 5).due(0, "many", 6);
             always(NONE, 24).due(0, "many", 5).due(0, "many", 6);
         });

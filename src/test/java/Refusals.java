@@ -1,4 +1,3 @@
-import java.util.ArrayList;
 import java.util.List;
 
 /**
@@ -90,6 +89,12 @@ public final class Refusals {
     }
 
     private static void refusals(String promise, String where, Scene scene, String call, Number... numbers) {
+        Check.test(promise + ", no refusal, all numbers being as told, " + where, () -> {
+            int answer = scene.answer(call, withWrong(numbers, -1, 0));
+            if (answer == UNKNOWN || answer == OUTSIDE) {
+                Check.wrong("answered " + answer);
+            }
+        });
         for (int p = 0; p < numbers.length; p++) {
             int place = p;
             Check.test(promise + ", \"" + numbers[p].sentence + "\", " + where, () -> {
@@ -141,24 +146,30 @@ public final class Refusals {
         Check.test("Promise 12, finger, \"UNKNOWN\": a HAND that rests always", () ->
             empty.refuses(UNKNOWN, "finger", 0, 0).refuses(UNKNOWN, "finger", 1, 0).refuses(UNKNOWN, "finger", 0, 29));
         Check.test("Promise 13, would, \"UNKNOWN\": a HAND that rests always", () ->
-            empty.refuses(UNKNOWN, "would", 0, 0, 1).refuses(UNKNOWN, "would", 1, 0, 5).refuses(UNKNOWN, "would", 0, 0, 6));
+            empty.refuses(UNKNOWN, "would", 0, 0, 1).refuses(UNKNOWN, "would", 1, 0, 5)
+                .refuses(UNKNOWN, "would", 0, 0, 6));
         Check.test("Promise 19, forget, \"UNKNOWN: there is none with that name\": no PHRASE", () ->
             empty.refuses(UNKNOWN, "forget", 0).refuses(UNKNOWN, "forget", 25));
         Check.test("Promise 22, echo, \"UNKNOWN: there is no PHRASE with that name\": no PHRASE", () ->
-            empty.refuses(UNKNOWN, "echo", 0, 0, 0).refuses(UNKNOWN, "echo", 25, 29, 1).refuses(UNKNOWN, "echo", 0, 30, 2));
+            empty.refuses(UNKNOWN, "echo", 0, 0, 0).refuses(UNKNOWN, "echo", 25, 29, 1)
+                .refuses(UNKNOWN, "echo", 0, 30, 2));
         Check.test("Promise 23, tieEcho, \"UNKNOWN: there is no PHRASE with that name\": no PHRASE", () ->
-            empty.refuses(UNKNOWN, "tieEcho", 0, 0).refuses(UNKNOWN, "tieEcho", 25, 29).refuses(UNKNOWN, "tieEcho", 0, 30));
+            empty.refuses(UNKNOWN, "tieEcho", 0, 0).refuses(UNKNOWN, "tieEcho", 25, 29)
+                .refuses(UNKNOWN, "tieEcho", 0, 30));
     }
 
     private static void states() {
         Scene rich = Scenes.RICH;
         Check.test("Promise 3, mark, \"STATE: it rests\"", () -> {
-            Scenes.EMPTY.refuses(STATE, "mark", 0, 0, 1).refuses(STATE, "mark", 1, 29, 5).refuses(STATE, "mark", 0, 0, NONE);
+            Scenes.EMPTY.refuses(STATE, "mark", 0, 0, 1).refuses(STATE, "mark", 1, 29, 5)
+                .refuses(STATE, "mark", 0, 0, NONE);
             rich.refuses(STATE, "mark", 0, 2, 1).refuses(STATE, "mark", 1, 28, 5).refuses(STATE, "mark", 1, 4, NONE);
         });
         Check.test("Promise 3, mark, \"STATE\" and another: the first one", () -> {
-            rich.refuses(OUTSIDE, "mark", 0, 2, 0).refuses(OUTSIDE, "mark", 0, 2, 6).refuses(OUTSIDE, "mark", 0, 2, HIGH);
-            rich.refuses(UNKNOWN, "mark", 2, 2, 1).refuses(UNKNOWN, "mark", -1, 2, 6).refuses(UNKNOWN, "mark", 0, 30, 6);
+            rich.refuses(OUTSIDE, "mark", 0, 2, 0).refuses(OUTSIDE, "mark", 0, 2, 6)
+                .refuses(OUTSIDE, "mark", 0, 2, HIGH);
+            rich.refuses(UNKNOWN, "mark", 2, 2, 1).refuses(UNKNOWN, "mark", -1, 2, 6)
+                .refuses(UNKNOWN, "mark", 0, 30, 6);
         });
         Check.test("Promise 4, reach, \"STATE: f is not less than g\"", () -> {
             for (int f = 1; f <= 5; f++) {
@@ -182,7 +193,8 @@ public final class Refusals {
         });
         Check.test("Promise 5, reachOf, \"STATE\" and another: the first one", () -> {
             rich.refuses(OUTSIDE, "reachOf", 2, 2, 3).refuses(OUTSIDE, "reachOf", 5, 1, -1);
-            rich.refuses(UNKNOWN, "reachOf", 6, 2, 0).refuses(UNKNOWN, "reachOf", 1, 0, 3).refuses(UNKNOWN, "reachOf", 6, 6, 0);
+            rich.refuses(UNKNOWN, "reachOf", 6, 2, 0).refuses(UNKNOWN, "reachOf", 1, 0, 3)
+                .refuses(UNKNOWN, "reachOf", 6, 6, 0);
         });
         Check.test("Promise 23, tieEcho, \"STATE: there is no such ECHO\"", () -> {
             rich.refuses(STATE, "tieEcho", 3, 3).refuses(STATE, "tieEcho", 3, 29);
@@ -190,35 +202,43 @@ public final class Refusals {
             Scenes.EMPTY.with("phrase", 3, 0, 0, 2).refuses(STATE, "tieEcho", 3, 0).refuses(STATE, "tieEcho", 3, 29);
         });
         Check.test("Promise 23, tieEcho, \"STATE\" and another: the first one", () -> {
-            rich.refuses(OUTSIDE, "tieEcho", 25, -1).refuses(OUTSIDE, "tieEcho", 0, 30).refuses(OUTSIDE, "tieEcho", 0, HIGH);
+            rich.refuses(OUTSIDE, "tieEcho", 25, -1).refuses(OUTSIDE, "tieEcho", 0, 30)
+                .refuses(OUTSIDE, "tieEcho", 0, HIGH);
             rich.refuses(UNKNOWN, "tieEcho", 1, 0).refuses(UNKNOWN, "tieEcho", 26, 29);
         });
     }
 
-    /** Calls that only tell something, and calls that find nothing to change. */
-    private static void tellers() {
-        List<Scene> scenes = new ArrayList<>(List.of(Scenes.EMPTY, Scenes.RICH, Scenes.FULL));
-        Object[][] calls = {
-            {"Promise 5, reachOf", "reachOf", 1, 2, 0}, {"Promise 8, note", "note", 0, 0, 0},
-            {"Promise 9, costs", "costs", 25, 1}, {"Promise 10, step", "step", 0, 24, 1, 26, 2},
-            {"Promise 11, best", "best", 0}, {"Promise 12, finger", "finger", 0, 5},
-            {"Promise 13, would", "would", 1, 5, 4}, {"Promise 16, tied", "tied", 0},
-            {"Promise 17, stuck", "stuck", 1}, {"Promise 21, name", "name", 0}, {"Promise 22, echo", "echo", 0, 0, 1},
-            {"Promise 24, moment", "moment", 0, 2}, {"Promise 25, sum", "sum"}, {"Promise 27, help", "help", 0},
-            {"Promise 27, help", "help", 1}, {"Promise 28, many", "many", 4}};
-        for (Object[] call : calls) {
-            int[] args = new int[call.length - 2];
-            for (int p = 0; p < args.length; p++) {
-                args[p] = (Integer) call[p + 2];
+    private static void onlyTells(String promise, String call, int... args) {
+        Check.test(promise + ", " + call + ": it only tells", () -> {
+            for (Scene scene : List.of(Scenes.EMPTY, Scenes.RICH, Scenes.FULL)) {
+                scene.changesNothing(call, args);
             }
-            Check.test(call[0] + ": only tells", () -> {
-                for (Scene scene : scenes) {
-                    scene.changesNothing((String) call[1], args);
-                }
-            });
-        }
+        });
+    }
+
+    private static void tellers() {
+        onlyTells("Promise 5", "reachOf", 1, 2, 0);
+        onlyTells("Promise 8", "note", 0, 0, 0);
+        onlyTells("Promise 9", "costs", 25, 1);
+        onlyTells("Promise 10", "step", 0, 24, 1, 26, 2);
+        onlyTells("Promise 11", "best", 0);
+        onlyTells("Promise 12", "finger", 0, 5);
+        onlyTells("Promise 13", "would", 1, 5, 4);
+        onlyTells("Promise 16", "tied", 0);
+        onlyTells("Promise 17", "stuck", 1);
+        onlyTells("Promise 21", "name", 0);
+        onlyTells("Promise 22", "echo", 0, 0, 1);
+        onlyTells("Promise 24", "moment", 0, 2);
+        onlyTells("Promise 25", "sum");
+        onlyTells("Promise 27", "help", 0);
+        onlyTells("Promise 27", "help", 1);
+        onlyTells("Promise 28", "many", 4);
+    }
+
+    private static void nothingToChange() {
         Check.test("Promise 2, put: what it has already", () ->
-            Scenes.RICH.changesNothing("put", 0, 1, 26).changesNothing("put", 0, 2, NONE).changesNothing("put", 1, 29, 19));
+            Scenes.RICH.changesNothing("put", 0, 1, 26).changesNothing("put", 0, 2, NONE)
+                .changesNothing("put", 1, 29, 19));
         Check.test("Promise 26, swap: two rests, a CLASH", () ->
             Scenes.RICH.changesNothing("swap", 8).changesNothing("swap", 0));
         Check.test("Promise 20, prune: nothing to prune", () ->
@@ -236,6 +256,7 @@ public final class Refusals {
         nothingThere();
         states();
         tellers();
+        nothingToChange();
         Check.end();
     }
 }

@@ -61,11 +61,14 @@ final class Scene {
         return with(name, args);
     }
 
+    int answer(String name, int... args) {
+        return answersOf(List.of(new Call(name, args)))[0];
+    }
+
     Scene due(int want, String name, int... args) {
-        Call call = new Call(name, args);
-        int got = answersOf(List.of(call))[0];
+        int got = answer(name, args);
         if (got != want) {
-            Check.wrong("behind " + calls + ": " + call + " answered " + got + ", due is " + want);
+            Check.wrong("behind " + calls + ": " + new Call(name, args) + " answered " + got + ", due is " + want);
         }
         return this;
     }
