@@ -132,14 +132,20 @@ final class Scene {
         return told;
     }
 
-    private int[] answersOf(List<Call> questions) {
-        if (calls.size() + questions.size() > MOST_CALLS) {
-            throw new IllegalStateException(calls.size() + questions.size() + " calls on one object");
-        }
+    /** A new object on which the calls have been made. */
+    KeyFingers object() {
         KeyFingers x = new KeyFingers();
         for (Call call : calls) {
             call.ask(x);
         }
+        return x;
+    }
+
+    private int[] answersOf(List<Call> questions) {
+        if (calls.size() + questions.size() > MOST_CALLS) {
+            throw new IllegalStateException(calls.size() + questions.size() + " calls on one object");
+        }
+        KeyFingers x = object();
         int[] answers = new int[questions.size()];
         for (int q = 0; q < answers.length; q++) {
             answers[q] = questions.get(q).ask(x);

@@ -2,15 +2,15 @@
 final class Scenes {
     static final int NONE = -9;
     static final Scene EMPTY = Scene.start();
-    static final Scene RICH = rich();
+    static final Scene RICH = richBehind(Scene.start());
     static final Scene FULL = full();
 
     private Scenes() {
     }
 
-    /** The right hand has 8 notes, the left one 6; its tie wants a seventh. */
-    private static Scene rich() {
-        return Scene.of(0, 24, 26, NONE, 28, 30, NONE, 25, 27, NONE, NONE, 24).with("put", 0, 29, 26)
+    /** The right hand has 8 notes, the left one 6; its tie wants a seventh. Other calls may stand ahead. */
+    static Scene richBehind(Scene ahead) {
+        return ahead.keys(0, 24, 26, NONE, 28, 30, NONE, 25, 27, NONE, NONE, 24).with("put", 0, 29, 26)
             .keys(1, 24, 30, 40, 20, NONE, 22).with("put", 1, 29, 19)
             .with("mark", 0, 1, 2).with("mark", 0, 6, 1).with("mark", 1, 0, 1).with("mark", 1, 29, 5)
             .with("tie", 0, 0, 4, 2).with("tie", 1, 0, 6, 1)
