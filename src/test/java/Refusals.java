@@ -1,3 +1,4 @@
+import java.util.ArrayList;
 import java.util.List;
 
 /**
@@ -235,6 +236,39 @@ public final class Refusals {
         onlyTells("Promise 28", "many", 4);
     }
 
+    /** Questions of both hands' rows, up to six notes. */
+    private static List<Call> questionsOfRows() {
+        List<Call> all = new ArrayList<>();
+        for (int hand = 0; hand < 2; hand++) {
+            for (String name : List.of("best", "tied", "stuck")) {
+                all.add(new Call(name, hand));
+            }
+            for (int k = 0; k < 6; k++) {
+                all.add(new Call("finger", hand, k));
+                all.add(new Call("would", hand, k, 1 + k % 5));
+            }
+        }
+        all.add(new Call("sum"));
+        all.add(new Call("help", 0));
+        all.add(new Call("help", 1));
+        return all;
+    }
+
+    /** Each question is asked of a new object, and then all of them of one, there and back. */
+    private static void anyOrder() {
+        Check.test("Promises 11 to 17, 25, 27: no answer depends on what was asked ahead of it", () -> {
+            List<Call> questions = questionsOfRows();
+            for (long seed = 1; seed <= 2500; seed++) {
+                Scene scene = AllRows.bothHands(seed);
+                KeyFingers x = scene.object();
+                for (int q = 0; q < 2 * questions.size(); q++) {
+                    Call call = questions.get(Math.min(q, 2 * questions.size() - 1 - q));
+                    scene.due(call.ask(x), call.name(), call.args());
+                }
+            }
+        });
+    }
+
     private static void nothingToChange() {
         Check.test("Promise 2, put: what it has already", () ->
             Scenes.RICH.changesNothing("put", 0, 1, 26).changesNothing("put", 0, 2, NONE)
@@ -256,6 +290,7 @@ public final class Refusals {
         nothingThere();
         states();
         tellers();
+        anyOrder();
         nothingToChange();
         Check.end();
     }

@@ -1,3 +1,5 @@
+import java.util.function.Consumer;
+
 /**
  * Promises 1 to 28, sentence by sentence: a test for each, its answers worked out by hand or by
  * trying all rows; what a call changes is compared with other calls that bring the same about.
@@ -5,23 +7,16 @@
  */
 public final class SentencesOfPromises {
     private static final int UNKNOWN = -1, OUTSIDE = -2, STATE = -3, NONE = -9;
-    private static final int SEEDS = 300;
     private static final Document DOCUMENT = new Document();
     private static final Scene RICH = Scenes.RICH;
-
-    private interface OfRows {
-        void look(AllRows rows);
-    }
 
     private static void says(String quote, Runnable body) {
         DOCUMENT.says(quote, body);
     }
 
     /** The same for many hands of a few notes. */
-    private static void forSome(OfRows body) {
-        for (long seed = 1001; seed <= 1000 + SEEDS; seed++) {
-            body.look(AllRows.some(seed));
-        }
+    private static void forSome(Consumer<AllRows> body) {
+        AllRows.forSeeds(1001, 1300, body);
     }
 
     private static void newObject() {

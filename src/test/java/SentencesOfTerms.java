@@ -1,4 +1,5 @@
 import java.util.Arrays;
+import java.util.function.Consumer;
 
 /**
  * The document from its first line to the end of "Terms", sentence by sentence: a test for each,
@@ -8,22 +9,15 @@ import java.util.Arrays;
 public final class SentencesOfTerms {
     private static final int UNKNOWN = -1, OUTSIDE = -2, STATE = -3, NONE = -9;
     private static final int THUMB = 0, FIFTH = 1, UNDER = 2, JUMP = 3, SLIDE = 4, AGAIN = 5, FOURTH = 6;
-    private static final int SEEDS = 400;
     private static final Document DOCUMENT = new Document();
-
-    private interface OfRows {
-        void look(AllRows rows);
-    }
 
     private static void says(String quote, Runnable body) {
         DOCUMENT.says(quote, body);
     }
 
     /** The same for many hands of a few notes. */
-    private static void forSome(OfRows body) {
-        for (long seed = 1; seed <= SEEDS; seed++) {
-            body.look(AllRows.some(seed));
-        }
+    private static void forSome(Consumer<AllRows> body) {
+        AllRows.forSeeds(1, 400, body);
     }
 
     private static void whatItIs() {
@@ -550,7 +544,7 @@ public final class SentencesOfTerms {
         });
         says("SUM: what the BEST ROWS of both HANDS cost together;", () -> {
             for (long seed = 1; seed <= 150; seed++) {
-                Scene s = bothHands(seed);
+                Scene s = AllRows.bothHands(seed);
                 int right = s.answer("best", 0), left = s.answer("best", 1);
                 if (right != NONE && left != NONE) {
                     s.due(right + left, "sum");
@@ -560,7 +554,7 @@ public final class SentencesOfTerms {
         says("NONE, if one has none.", () -> {
             int[] seen = new int[3];
             for (long seed = 1; seed <= 150; seed++) {
-                Scene s = bothHands(seed);
+                Scene s = AllRows.bothHands(seed);
                 int without = (s.answer("best", 0) == NONE ? 1 : 0) + (s.answer("best", 1) == NONE ? 1 : 0);
                 seen[without]++;
                 if (without > 0) {
@@ -570,14 +564,6 @@ public final class SentencesOfTerms {
             Check.due("hands of both kinds were tried", seen[0] > 10 && seen[1] > 10 ? 1 : 0, 1);
         });
         swapsAndHelp();
-    }
-
-    /** Notes of both hands at the same few moments, by two of the hands that are tried. */
-    private static Scene bothHands(long seed) {
-        AllRows one = AllRows.some(2 * seed), two = AllRows.some(2 * seed + 1);
-        Scene s = one.rules.keys(0, one.keys).marks(0, one.marks).keys(1, two.keys).marks(1, two.marks);
-        s = one.tie == null ? s : s.with("tie", 0, one.tie[0], one.tie[1], one.tie[2]);
-        return two.tie == null ? s : s.with("tie", 1, two.tie[0], two.tie[1], two.tie[2]);
     }
 
     private static void swapsAndHelp() {
@@ -597,7 +583,7 @@ public final class SentencesOfTerms {
         });
         says("HELP: of all MOMENTS the one with the least SUM behind a SWAP of it alone,", () -> {
             for (long seed = 1; seed <= 150; seed++) {
-                Scene s = bothHands(seed);
+                Scene s = AllRows.bothHands(seed);
                 int[] help = helpOf(s);
                 s.due(help[0], "help", 0).due(help[1], "help", 1);
             }

@@ -1,5 +1,6 @@
 import java.util.Arrays;
 import java.util.Random;
+import java.util.function.Consumer;
 
 /**
  * All rows of a few notes, tried one by one: any five fingers, any marks, any tie. What notes and
@@ -42,6 +43,20 @@ final class AllRows {
             marks[k] = random.nextInt(4) == 0 ? 1 + random.nextInt(5) : NONE;
         }
         return new AllRows(someRules(random), random.nextInt(2), keys, marks, someTie(random, notes));
+    }
+
+    static void forSeeds(long first, long last, Consumer<AllRows> body) {
+        for (long seed = first; seed <= last; seed++) {
+            body.accept(some(seed));
+        }
+    }
+
+    /** Notes of both hands at the same few moments, with their marks and ties. */
+    static Scene bothHands(long seed) {
+        AllRows one = some(2 * seed), two = some(2 * seed + 1);
+        Scene s = one.rules.keys(0, one.keys).marks(0, one.marks).keys(1, two.keys).marks(1, two.marks);
+        s = one.tie == null ? s : s.with("tie", 0, one.tie[0], one.tie[1], one.tie[2]);
+        return two.tie == null ? s : s.with("tie", 1, two.tie[0], two.tie[1], two.tie[2]);
     }
 
     private static Scene someRules(Random random) {
